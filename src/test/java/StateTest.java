@@ -9,6 +9,7 @@ public final class StateTest {
         coldOnesIntegrateToo();
         integratingErrors();
         interruptedIntegration();
+        integrationAgain();
         coldIntegratingOnesStart();
         halts();
         becomesPassive();
@@ -138,6 +139,25 @@ public final class StateTest {
         y.cold(2, true);
         y.run(3);
         states("integrated", y, 2, 2, 2, 2);
+    }
+
+    private static void integrationAgain() {
+        FlexCycles x = Setups.started(3, 1, 1);
+        x.drift(3, 200);
+        x.run(8);
+        x.frame(1, 0, 3, 0, 1);
+        x.drift(3, 0);
+        x.run(1);
+        states("3 has drifted off", x, 2, 2, 4);
+        x.cold(3, true);
+        states("3 is told to be COLD", x, 2, 2, 0);
+        x.run(1);
+        states("3 integrates again", x, 2, 2, 1);
+        x.run(1);
+        states("it takes as long as before", x, 2, 2, 1);
+        x.run(1);
+        states("it is ACTIVE again", x, 2, 2, 2);
+        check.due("with the ERROR of 1", x.offset(3), 0);
     }
 
     private static void coldIntegratingOnesStart() {
