@@ -31,20 +31,41 @@ final class Setups {
         }
     }
 
+    /** FLIPS on both channels, so that nothing at this SLOT is DONE in the next cycle. */
+    static void silence(FlexCycles x, int slot) {
+        x.flip(1, slot);
+        x.flip(2, slot);
+    }
+
+    /** Two nodes as at makes them, with the ERRORS apart and 0. */
+    static FlexCycles apart(int apart, int cycle) {
+        return at(cycle, apart, 0);
+    }
+
     /**
-     * Two nodes that send, COLD and READY with the ERRORS apart and 0 and no DRIFT; apart is
-     * 0 or more. As many cycles have been run as are told, at least apart / 200 + 1.
+     * As many nodes as there are ERRORS, all READY and COLD, with these ERRORS and no DRIFT; each
+     * sends in every cycle, on both channels of the SLOT below its number. The next cycle's count
+     * is as told; the ERRORS are drifted to before it, by at most 200 in a cycle.
      */
-    static FlexCycles apart(int apart, int cycles) {
-        FlexCycles x = new FlexCycles(2, 2, 0);
-        allSend(x, 2);
-        x.drift(1, 200);
-        x.run(apart / 200);
-        x.drift(1, apart % 200);
-        x.run(1);
-        x.drift(1, 0);
-        x.run(cycles - apart / 200 - 1);
-        allCold(x, 2);
+    static FlexCycles at(int cycle, int... errors) {
+        FlexCycles x = new FlexCycles(errors.length, 60, 20);
+        allSend(x, errors.length);
+        int[] left = errors.clone();
+        for (int c = 0; c < cycle; c++) {
+            for (int i = 0; i < left.length; i++) {
+                int step = Math.max(-200, Math.min(200, left[i]));
+                x.drift(i + 1, step);
+                left[i] -= step;
+            }
+            x.run(1);
+        }
+        for (int i = 0; i < left.length; i++) {
+            if (left[i] != 0) {
+                throw new IllegalArgumentException("too few cycles for the ERROR " + errors[i]);
+            }
+            x.drift(i + 1, 0);
+        }
+        allCold(x, errors.length);
         return x;
     }
 }
