@@ -49,15 +49,18 @@ final class Check {
         }
     }
 
+    /** The machine's own exception tells an index; that of a throw statement has no text. */
     void placeThrows(FlexCycles x, int slot, int cycle) {
         String thrown = "nothing";
+        String text = null;
         try {
             x.place(slot, cycle);
         } catch (RuntimeException e) {
             thrown = e.getClass().getSimpleName();
+            text = e.getMessage();
         }
-        boolean right = thrown.equals("ArrayIndexOutOfBoundsException");
-        due("place(" + slot + ", " + cycle + ") threw " + thrown + ": right", right, true);
+        boolean right = thrown.equals("ArrayIndexOutOfBoundsException") && text == null;
+        due("place(" + slot + ", " + cycle + ") threw " + thrown + " (" + text + "): right", right, true);
     }
 
     void end() {
